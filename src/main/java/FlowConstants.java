@@ -323,7 +323,11 @@ public final class FlowConstants {
         /** The letter (0: more than one of them), the number or the sign of the TOKEN. */
         int meaning = 0;
 
+        /** The TOKEN can't stand there: it stays, and its place is the FAULT. */
+        boolean stuck = false;
+
         void rewind() {
+            stuck = false;
             behind = 0;
             step();
         }
@@ -379,146 +383,104 @@ public final class FlowConstants {
             }
         }
 
-        boolean isNumeralBelow(int bound) {
-            return kind == NUMERAL && meaning < bound;
+        boolean hasMore() {
+            return !stuck && kind != ENDED;
+        }
+
+        /** What the TOKEN means, if it is of that kind, and not stuck; 0 if it is. */
+        int take(int wanted) {
+            if (stuck || kind != wanted) {
+                stuck = true;
+                return 0;
+            }
+            int taken = meaning;
+            step();
+            return taken;
+        }
+
+        int takeNumeralBelow(int bound) {
+            if (meaning >= bound) {
+                stuck = true;
+            }
+            return take(NUMERAL);
         }
     }
 
-    /**
-     * Reads THE TEXT into a Shape. Whatever answers false leaves the TOKEN that
-     * can't stand there as the text's present one, so its place is the FAULT.
-     */
+    /** Reads THE TEXT into a Shape, which is worth nothing if the text is stuck then. */
     private static final class Reader {
         static int faultOf(Text text, Shape draft) {
             draft.empty();
             text.rewind();
-            for (int items = 0; items < MOST_BYTES && text.kind != Text.ENDED; items++) {
-                if (!readItem(text, draft)) {
-                    return text.place;
-                }
+            for (int items = 0; items < MOST_BYTES && text.hasMore(); items++) {
+                readItem(text, draft);
             }
-            return draft.isWhole() && draft.isStrict() ? NO_FAULT : text.place;
+            boolean right = !text.stuck && draft.isWhole() && draft.isStrict();
+            return right ? NO_FAULT : text.place;
         }
 
-        static boolean readItem(Text text, Shape draft) {
-            int letter = text.meaning;
-            if (text.kind != Text.LETTERS || !draft.admits(letter)) {
-                return false;
+        static void readItem(Text text, Shape draft) {
+            int letter = text.kind == Text.LETTERS ? text.meaning : 0;
+            if (!draft.admits(letter)) {
+                text.stuck = true;
+                return;
             }
             text.step();
-            if (!readParts(text, draft, letter) || text.kind != Text.STOP) {
-                return false;
-            }
-            text.step();
-            return true;
-        }
-
-        static boolean readParts(Text text, Shape draft, int letter) {
             switch (letter) {
-                case 'b':
-                    draft.beginBlock();
-                    return true;
-                case 'i':
-                    draft.addName(INPUT);
-                    return true;
-                case 'k': return readNumber(text, draft);
-                case 'o': return readOperation(text, draft);
-                case 'j': return readArms(text, draft);
-                case 'g': return readGoing(text, draft);
-                case 'q': return readChoice(text, draft);
-                default: return readReturn(text, draft);
+                case 'b': draft.beginBlock(); break;
+                case 'i': draft.addName(INPUT); break;
+                case 'k': readNumber(text, draft); break;
+                case 'o': readOperation(text, draft); break;
+                case 'j': readArms(text, draft); break;
+                case 'g': readGoing(text, draft); break;
+                case 'q': readChoice(text, draft); break;
+                default: readReturn(text, draft); break;
             }
+            text.take(Text.STOP);
         }
 
-        static boolean readNumber(Text text, Shape draft) {
+        static void readNumber(Text text, Shape draft) {
             int n = draft.addName(NUMBER);
-            if (text.kind != Text.NUMERAL) {
-                return false;
-            }
-            draft.number[n] = text.meaning;
-            text.step();
-            return true;
+            draft.number[n] = text.take(Text.NUMERAL);
         }
 
-        static boolean readOperation(Text text, Shape draft) {
+        static void readOperation(Text text, Shape draft) {
             int n = draft.addName(OPERATION);
-            if (!text.isNumeralBelow(MOST_NAMES)) {
-                return false;
-            }
-            draft.left[n] = text.meaning;
-            text.step();
-            if (text.kind != Text.SIGN) {
-                return false;
-            }
-            draft.sign[n] = text.meaning;
-            text.step();
-            if (!text.isNumeralBelow(MOST_NAMES)) {
-                return false;
-            }
-            draft.right[n] = text.meaning;
-            text.step();
-            return true;
+            draft.left[n] = text.takeNumeralBelow(MOST_NAMES);
+            draft.sign[n] = text.take(Text.SIGN);
+            draft.right[n] = text.takeNumeralBelow(MOST_NAMES);
         }
 
-        static boolean readArms(Text text, Shape draft) {
+        static void readArms(Text text, Shape draft) {
             int n = draft.addName(JOIN);
-            for (int arm = 0; arm < MOST_ARMS; arm++) {
-                if (arm > 0 && text.kind == Text.STOP) {
-                    return true;
+            for (int arm = 0; arm < MOST_ARMS && (arm == 0 || text.kind != Text.STOP); arm++) {
+                if (text.kind == Text.NUMERAL && draft.hasArm(n, text.meaning)) {
+                    text.stuck = true;
                 }
-                int from = text.meaning;
-                if (!text.isNumeralBelow(MOST_BLOCKS) || draft.hasArm(n, from)) {
-                    return false;
-                }
-                text.step();
-                if (!text.isNumeralBelow(MOST_NAMES)) {
-                    return false;
-                }
-                draft.addArm(n, from, text.meaning);
-                text.step();
+                int from = text.takeNumeralBelow(MOST_BLOCKS);
+                int what = text.takeNumeralBelow(MOST_NAMES);
+                draft.addArm(n, from, what);
             }
-            return true;
         }
 
-        static boolean readGoing(Text text, Shape draft) {
+        static void readGoing(Text text, Shape draft) {
             int b = draft.endBlock(GOES);
-            if (!text.isNumeralBelow(MOST_BLOCKS)) {
-                return false;
-            }
-            draft.way[WAYS * b] = text.meaning;
-            text.step();
-            return true;
+            draft.way[WAYS * b] = text.takeNumeralBelow(MOST_BLOCKS);
         }
 
-        static boolean readChoice(Text text, Shape draft) {
+        static void readChoice(Text text, Shape draft) {
             int b = draft.endBlock(CHOOSES);
-            if (!text.isNumeralBelow(MOST_NAMES)) {
-                return false;
+            draft.endName[b] = text.takeNumeralBelow(MOST_NAMES);
+            int first = text.takeNumeralBelow(MOST_BLOCKS);
+            if (text.kind == Text.NUMERAL && text.meaning == first) {
+                text.stuck = true;
             }
-            draft.endName[b] = text.meaning;
-            text.step();
-            if (!text.isNumeralBelow(MOST_BLOCKS)) {
-                return false;
-            }
-            int first = text.meaning;
             draft.way[WAYS * b] = first;
-            text.step();
-            if (!text.isNumeralBelow(MOST_BLOCKS) || text.meaning == first) {
-                return false;
-            }
-            draft.way[WAYS * b + 1] = text.meaning;
-            text.step();
-            return true;
+            draft.way[WAYS * b + 1] = text.takeNumeralBelow(MOST_BLOCKS);
         }
 
-        static boolean readReturn(Text text, Shape draft) {
+        static void readReturn(Text text, Shape draft) {
             int b = draft.endBlock(RETURNS);
-            if (!text.isNumeralBelow(MOST_NAMES)) {
-                return false;
-            }
-            draft.endName[b] = text.meaning;
-            text.step();
-            return true;
+            draft.endName[b] = text.takeNumeralBelow(MOST_NAMES);
         }
     }
 

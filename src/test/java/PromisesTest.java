@@ -165,10 +165,14 @@ public final class PromisesTest {
         Check.fault("b;i;z0;b;z0;b;z0;b;z0;b;z0;b;z0;b;z0;b;z0;b;z0;", 42);
         Check.fault("b;i;i;i;i;i;i;i;i;i;i;i;i;i;i;i;i;i;i;i;i;i;i;i;i;k1;", 50);
         Check.fault("b;i;i;i;i;i;i;i;i;i;i;i;i;i;i;i;i;i;i;i;i;i;i;i;i; o0+0;", 51);
+        Check.fault("b;i;i;i;i;i;i;i;i;i;i;i;i;i;i;i;i;i;i;i;i;i;i;i;g1;b;j0 0;j0 0;z0;", 58);
+        Check.fault("b;k1;z0;!", 8);
     }
 
     private static void faultsOfTokens() {
         Check.fault("bb;", 0);
+        Check.fault("ba;", 0);
+        Check.fault("bz;", 0);
         Check.fault("b;ki;", 2);
         Check.fault("b;kz1;", 2);
         Check.fault("b k1;", 2);
@@ -236,6 +240,10 @@ public final class PromisesTest {
         notStrict("b;k1;g1;");
         notStrict("b;k1;g0;");
         notStrict("b;k1;g1;b;q0 0 1;");
+        notStrict("b;o0+0;z0;");
+        notStrict("b;o1+1;k1;z1;");
+        notStrict("b;o0+5;z0;");
+        notStrict("b;g1;b;j0 0;z0;");
         notStrict("b;k1;o0+1;z1;");
         notStrict("b;k1;o2+0;k1;z1;");
         notStrict("b;k1;o0+9;z1;");
@@ -751,6 +759,8 @@ public final class PromisesTest {
         Check.due("17: a dead name does not stay", x.count(9), 0);
         x.knows(1, 3);
         Check.due("17: no gain", x.count(10), 0);
+        x = Check.read("b;g2;b;i;z0;b;k0;q1 1 2;", 2);
+        Check.due("17: gain of NAME 0, no part of BLOCK 0", x.count(10), 1);
     }
 
     // Promise 18

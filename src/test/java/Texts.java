@@ -9,6 +9,7 @@ final class Texts {
 
     private final Random random;
     private int blocks;
+    private int first;
     private int[][] targets;
     private char[] ends;
     private List<Integer> homes;
@@ -46,6 +47,7 @@ final class Texts {
         return spoiled.toString();
     }
 
+    /** Now and then BLOCK 0 has no NAMES: where it goes to, the first ones are made. */
     private void makeBlocks() {
         blocks = 1 + random.nextInt(8);
         ends = new char[blocks];
@@ -64,6 +66,12 @@ final class Texts {
                 ends[b] = 'z';
             }
         }
+        first = 0;
+        if (blocks > 1 && random.nextInt(8) == 0) {
+            first = 1 + random.nextInt(blocks - 1);
+            ends[0] = 'g';
+            targets[0] = new int[] {first};
+        }
     }
 
     private void makeNames() {
@@ -71,11 +79,11 @@ final class Texts {
         letters = new ArrayList<>();
         for (int b = 0; b < blocks; b++) {
             int coming = comingTo(b).size();
-            int joins = coming == 0 || coming > 3 ? 0 : random.nextInt(3);
-            int others = random.nextInt(4) + (b == 0 ? 1 : 0);
-            for (int i = 0; i < joins + others && homes.size() < 24; i++) {
+            int joins = b == first || coming == 0 || coming > 3 ? 0 : random.nextInt(3);
+            int others = b < 1 && first > 0 ? 0 : random.nextInt(4) + (b == first ? 1 : 0);
+            for (int i = 0; i < joins + others && homes.size() < 24 - (b < first ? 1 : 0); i++) {
                 homes.add(b);
-                letters.add(i < joins ? 'j' : b == 0 && i == 0 ? "ki".charAt(random.nextInt(2))
+                letters.add(i < joins ? 'j' : b == first && i == 0 ? "ki".charAt(random.nextInt(2))
                     : "kioooo".charAt(random.nextInt(6)));
             }
         }
