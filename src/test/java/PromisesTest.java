@@ -248,6 +248,9 @@ public final class PromisesTest {
         notStrict("b;k1;o2+0;k1;z1;");
         notStrict("b;k1;o0+9;z1;");
         notStrict("b;k1;g1;b;j0 9;z0;");
+        notStrict("b;k1;g1;b;o0+9;z1;");
+        notStrict("b;k1;g1;b;o9+0;z1;");
+        notStrict("b;k1;g1;b;z9;");
         notStrict("b;k1;g1;b;j0 0 2 0;z0;");
         notStrict("b;k1;q0 1 2;b;g2;b;j1 0;z0;");
         notStrict("b;k1;q0 1 2;b;g2;b;j0 0;z0;");
