@@ -314,6 +314,9 @@ public final class FlowConstants {
     private static final class Text {
         static final int ENDED = 0, LETTERS = 1, NUMERAL = 2, SIGN = 3, STOP = 4, WRONG = 5;
 
+        /** Above all that a TOKEN may mean. */
+        static final int UNBOUND = MOST_NUMBER + 1;
+
         final int[] bytes = new int[MOST_BYTES];
         int length = 0;
         int kind = ENDED;
@@ -387,22 +390,15 @@ public final class FlowConstants {
             return !stuck && kind != ENDED;
         }
 
-        /** What the TOKEN means, if it is of that kind, and not stuck; 0 if it is. */
-        int take(int wanted) {
-            if (stuck || kind != wanted) {
+        /** What the TOKEN means, if it is of that kind and below the bound; else the text is stuck. */
+        int take(int wanted, int bound) {
+            if (stuck || kind != wanted || meaning >= bound) {
                 stuck = true;
                 return 0;
             }
             int taken = meaning;
             step();
             return taken;
-        }
-
-        int takeNumeralBelow(int bound) {
-            if (meaning >= bound) {
-                stuck = true;
-            }
-            return take(NUMERAL);
         }
     }
 
@@ -435,19 +431,19 @@ public final class FlowConstants {
                 case 'q': readChoice(text, draft); break;
                 default: readReturn(text, draft); break;
             }
-            text.take(Text.STOP);
+            text.take(Text.STOP, Text.UNBOUND);
         }
 
         static void readNumber(Text text, Shape draft) {
             int n = draft.addName(NUMBER);
-            draft.number[n] = text.take(Text.NUMERAL);
+            draft.number[n] = text.take(Text.NUMERAL, Text.UNBOUND);
         }
 
         static void readOperation(Text text, Shape draft) {
             int n = draft.addName(OPERATION);
-            draft.left[n] = text.takeNumeralBelow(MOST_NAMES);
-            draft.sign[n] = text.take(Text.SIGN);
-            draft.right[n] = text.takeNumeralBelow(MOST_NAMES);
+            draft.left[n] = text.take(Text.NUMERAL, MOST_NAMES);
+            draft.sign[n] = text.take(Text.SIGN, Text.UNBOUND);
+            draft.right[n] = text.take(Text.NUMERAL, MOST_NAMES);
         }
 
         static void readArms(Text text, Shape draft) {
@@ -456,31 +452,31 @@ public final class FlowConstants {
                 if (text.kind == Text.NUMERAL && draft.hasArm(n, text.meaning)) {
                     text.stuck = true;
                 }
-                int from = text.takeNumeralBelow(MOST_BLOCKS);
-                int what = text.takeNumeralBelow(MOST_NAMES);
+                int from = text.take(Text.NUMERAL, MOST_BLOCKS);
+                int what = text.take(Text.NUMERAL, MOST_NAMES);
                 draft.addArm(n, from, what);
             }
         }
 
         static void readGoing(Text text, Shape draft) {
             int b = draft.endBlock(GOES);
-            draft.way[WAYS * b] = text.takeNumeralBelow(MOST_BLOCKS);
+            draft.way[WAYS * b] = text.take(Text.NUMERAL, MOST_BLOCKS);
         }
 
         static void readChoice(Text text, Shape draft) {
             int b = draft.endBlock(CHOOSES);
-            draft.endName[b] = text.takeNumeralBelow(MOST_NAMES);
-            int first = text.takeNumeralBelow(MOST_BLOCKS);
+            draft.endName[b] = text.take(Text.NUMERAL, MOST_NAMES);
+            int first = text.take(Text.NUMERAL, MOST_BLOCKS);
             if (text.kind == Text.NUMERAL && text.meaning == first) {
                 text.stuck = true;
             }
             draft.way[WAYS * b] = first;
-            draft.way[WAYS * b + 1] = text.takeNumeralBelow(MOST_BLOCKS);
+            draft.way[WAYS * b + 1] = text.take(Text.NUMERAL, MOST_BLOCKS);
         }
 
         static void readReturn(Text text, Shape draft) {
             int b = draft.endBlock(RETURNS);
-            draft.endName[b] = text.takeNumeralBelow(MOST_NAMES);
+            draft.endName[b] = text.take(Text.NUMERAL, MOST_NAMES);
         }
     }
 

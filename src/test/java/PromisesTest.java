@@ -235,41 +235,37 @@ public final class PromisesTest {
 
     /** Each of these stands but for one thing that is not STRICT. */
     private static void faultsOfStrictness() {
-        notStrict("b;z0;");
-        notStrict("b;k1;z1;");
-        notStrict("b;k1;g1;");
-        notStrict("b;k1;g0;");
-        notStrict("b;k1;g1;b;q0 0 1;");
-        notStrict("b;o0+0;z0;");
-        notStrict("b;o1+1;k1;z1;");
-        notStrict("b;o0+5;z0;");
-        notStrict("b;g1;b;j0 0;z0;");
-        notStrict("b;k1;o0+1;z1;");
-        notStrict("b;k1;o2+0;k1;z1;");
-        notStrict("b;k1;o0+9;z1;");
-        notStrict("b;k1;g1;b;j0 9;z0;");
-        notStrict("b;k1;g1;b;o0+9;z1;");
-        notStrict("b;k1;g1;b;o9+0;z1;");
-        notStrict("b;k1;g1;b;z9;");
-        notStrict("b;k1;g1;b;j0 0 2 0;z0;");
-        notStrict("b;k1;q0 1 2;b;g2;b;j1 0;z0;");
-        notStrict("b;k1;q0 1 2;b;g2;b;j0 0;z0;");
-        notStrict("b;k1;q0 1 2;b;k2;g2;b;j0 1 1 0;z0;");
-        notStrict("b;k1;q0 1 2;b;k2;g2;b;z1;");
-        notStrict("b;k1;q0 1 2;b;k2;g2;b;o0+1;z0;");
-        notStrict("b;k1;g1;b;k2;z0;b;j1 0;z0;");
-        notStrict("b;k1;g1;b;j0 1;z0;");
-        notStrict("b;i;q0 1 2;b;j0 0 3 0;z0;b;g1;b;g1;");
+        Check.notStrict("b;z0;");
+        Check.notStrict("b;k1;z1;");
+        Check.notStrict("b;k1;g1;");
+        Check.notStrict("b;k1;g0;");
+        Check.notStrict("b;k1;g1;b;q0 0 1;");
+        Check.notStrict("b;o0+0;z0;");
+        Check.notStrict("b;o1+1;k1;z1;");
+        Check.notStrict("b;o0+5;z0;");
+        Check.notStrict("b;g1;b;j0 0;z0;");
+        Check.notStrict("b;k1;o0+1;z1;");
+        Check.notStrict("b;k1;o2+0;k1;z1;");
+        Check.notStrict("b;k1;o0+9;z1;");
+        Check.notStrict("b;k1;g1;b;j0 9;z0;");
+        Check.notStrict("b;k1;g1;b;o0+9;z1;");
+        Check.notStrict("b;k1;g1;b;o9+0;z1;");
+        Check.notStrict("b;k1;g1;b;z9;");
+        Check.notStrict("b;k1;g1;b;j0 0 2 0;z0;");
+        Check.notStrict("b;k1;q0 1 2;b;g2;b;j1 0;z0;");
+        Check.notStrict("b;k1;q0 1 2;b;g2;b;j0 0;z0;");
+        Check.notStrict("b;k1;q0 1 2;b;k2;g2;b;j0 1 1 0;z0;");
+        Check.notStrict("b;k1;q0 1 2;b;k2;g2;b;z1;");
+        Check.notStrict("b;k1;q0 1 2;b;k2;g2;b;o0+1;z0;");
+        Check.notStrict("b;k1;g1;b;k2;z0;b;j1 0;z0;");
+        Check.notStrict("b;k1;g1;b;j0 1;z0;");
+        Check.notStrict("b;i;q0 1 2;b;j0 0 3 0;z0;b;g1;b;g1;");
         Check.read("b;k1;q0 1 2;b;k2;g2;b;j0 0 1 1;z0;", 3);
         // Where there is no way, any BLOCK dominates: but its own NAMES must be ahead.
         Check.read("b;k1;z0;b;o2+0;z0;b;o1+1;z1;", 3);
         Check.read("b;k1;z0;b;j2 2;g2;b;j1 1;g1;", 3);
-        notStrict("b;k1;z0;b;o1+0;z0;");
-        notStrict("b;k1;z0;b;j1 0;z0;");
-    }
-
-    private static void notStrict(String text) {
-        Check.fault(text, text.length());
+        Check.notStrict("b;k1;z0;b;o1+0;z0;");
+        Check.notStrict("b;k1;z0;b;j1 0;z0;");
     }
 
     private static void programReadAnew() {
