@@ -30,11 +30,13 @@ public final class DeedEdgesTest {
         bestAsGiven();
         bestOfNone();
         imagesKeepNow();
+        imagesKeepNumbers();
         imagesKeepNothingElse();
         imagesAreTwo();
         nothingUndoneBehindBack();
         readAnew();
         readAnewWithFewer();
+        readOneBehindTheOther();
         Check.end("DeedEdgesTest");
     }
 
@@ -291,6 +293,31 @@ public final class DeedEdgesTest {
         return new int[] {x.name(1, 5), input, number, x.block(0, 4), x.block(0, 5)};
     }
 
+    /** Of the last NAME, too: 23 is an INPUT in one program, a NUMBER in the other. */
+    private static void imagesKeepNumbers() {
+        FlowConstants x = Check.read("b;" + "i;".repeat(24) + "z23;", 24);
+        x.knows(23, 3);
+        x.gives(23, 5);
+        x.keep(0);
+        x.knows(23, 4);
+        x.gives(23, 6);
+        x.keep(1);
+        x.back(0);
+        Check.asked("known as", x, x.found(23), 1, 3);
+        x.forgets(23);
+        Check.asked("given as", x, x.last(23), 1, 5);
+        x.back(1);
+        Check.asked("known as, in the other one", x, x.found(23), 1, 4);
+        x.forgets(23);
+        Check.asked("given as, in the other one", x, x.last(23), 1, 6);
+        x = Check.read("b;" + "i;".repeat(23) + "k7;z23;", 24);
+        x.patches(23, 8);
+        x.keep(1);
+        x.patches(23, 9);
+        x.back(1);
+        Check.asked("a number", x, x.run(), 0, 8);
+    }
+
     private static void imagesKeepNothingElse() {
         Check.says("IMAGES keep NOW; nothing else");
         FlowConstants x = Check.read(DIAMOND, 6);
@@ -385,5 +412,24 @@ public final class DeedEdgesTest {
         Check.due("not known", x.name(0, 6), ANY);
         Check.due("ones", x.count(5), 0);
         Check.due("never", x.count(6), 0);
+    }
+
+    /** Whatever was read before, or refused between, a program is as in a new object. */
+    private static void readOneBehindTheOther() {
+        String[] texts = {DIAMOND, "b;g1;b;g1;", "b;i;z0;", "b;k1;o0-0;z1;b;i;g2;b;j1 2;z3;",
+            "b;i;q0 1 2;b;q0 3 4;b;g4;b;g4;b;j1 0 2 0 3 0;z1;", "b;i;i;o0/1;o0%1;z3;b;z0;b;z0;b;z0;"};
+        String[] faults = {"", "b;i;g1;b;j7 23 6 22 5 21;j7 9;q23 7 6;!", "b;k999;o23^23;o9*9;g7;b;k999;z9;"};
+        for (String text : texts) {
+            List<Integer> asNew = Sight.of(read(text));
+            for (String before : texts) {
+                for (String fault : faults) {
+                    List<ToIntFunction<FlowConstants>> calls = read(before);
+                    calls.add(x -> Check.type(x, fault).program());
+                    calls.add(x -> x.clear());
+                    calls.add(x -> Check.type(x, text).program());
+                    Check.isTrue(text + " behind " + before + " and " + fault, Sight.of(calls).equals(asNew));
+                }
+            }
+        }
     }
 }

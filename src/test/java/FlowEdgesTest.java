@@ -27,6 +27,8 @@ public final class FlowEdgesTest {
         comparisons();
         inputsAtFirst();
         foundAtFirst();
+        asLongAsValuesChange();
+        asLongAsEdgesChange();
         edgesOfLiveBlocks();
         edgesByName();
         liveBlocks();
@@ -34,6 +36,7 @@ public final class FlowEdgesTest {
         operations();
         joinsOfTwo();
         joinsOfThree();
+        joinsAlongLiveEdges();
         neverBack();
         plain();
         joinsAtOnce();
@@ -185,6 +188,60 @@ public final class FlowEdgesTest {
         Check.due("without names, live edges", x.count(4), 2);
     }
 
+    /** 6 is unlike at last, then 5, which is made of it, 4, 3: each a round behind, against the text. */
+    private static void asLongAsValuesChange() {
+        Check.says("As long as something changes");
+        String loop = "b;k0;k1;i;g1;b;j0 0 1 4;j0 0 1 5;j1 6 0 0;j1 1 0 0;";
+        String[] others = {"", "k5;", "i;", "o0+0;", "k5;i;o0+1;"};
+        int[] names = {7, 8, 8, 8, 10};
+        for (int i = 0; i < others.length; i++) {
+            FlowConstants x = Check.read(loop + others[i] + "q2 1 2;b;z3;", names[i]);
+            for (int n = 3; n <= 6; n++) {
+                Check.due("name(" + n + ", 6) behind " + others[i], x.name(n, 6), ANY);
+                Check.due("name(" + n + ", 7) behind " + others[i], x.name(n, 7), ANY);
+            }
+            x.patches(1, 0);
+            for (int n = 3; n <= 6; n++) {
+                Check.asked("all alike: found(" + n + ")", x, x.found(n), 1, 0);
+            }
+        }
+        FlowConstants x = Check.read("b;k0;k1;i;g1;b;j0 0 1 4;j0 0 1 1;j0 0 1 0;q2 1 2;b;z3;", 6);
+        Check.due("a join that stays is told behind", x.name(3, 6), ANY);
+        Check.asked("that join", x, x.found(5), 1, 0);
+        longestChange();
+    }
+
+    /** As many joins as there may be, each made of the next one. */
+    private static void longestChange() {
+        StringBuilder text = new StringBuilder("b;k0;i;g1;b;");
+        for (int n = 2; n < 12; n++) {
+            text.append("j0 0 1 ").append(n + 1).append(';');
+        }
+        FlowConstants x = Check.read(text + "j0 0 1 1;q1 1 2;b;z2;", 13);
+        for (int n = 2; n <= 12; n++) {
+            Check.due("name(" + n + ", 6)", x.name(n, 6), ANY);
+        }
+        x.knows(1, 0);
+        for (int n = 2; n <= 12; n++) {
+            Check.asked("not come to again: found(" + n + ")", x, x.found(n), 1, 0);
+        }
+    }
+
+    private static void asLongAsEdgesChange() {
+        FlowConstants x = Check.read("b;g7;b;g1;b;g1;b;g2;b;g3;b;g4;b;g5;b;g6;", 0);
+        Check.due("against the text: live blocks", x.count(3), 8);
+        Check.due("against the text: live edges", x.count(4), 8);
+        x = Check.read("b;i;g7;b;z0;b;q0 1 2;b;q0 2 3;b;q0 3 4;b;q0 4 5;b;q0 5 6;b;q0 6 7;", 1);
+        Check.due("by a name: live blocks", x.count(3), 8);
+        Check.due("by a name: live edges", x.count(4), 13);
+        x.knows(0, 1);
+        Check.due("all the way: live blocks", x.count(3), 8);
+        Check.due("all the way: live edges", x.count(4), 7);
+        x.knows(0, 0);
+        Check.due("around the last: live blocks", x.count(3), 2);
+        Check.due("around the last: live edges", x.count(4), 2);
+    }
+
     private static void edgesOfLiveBlocks() {
         Check.says("an EDGE is LIVE, if its BLOCK is, and its END goes there");
         FlowConstants x = Check.read(DEAD, 5);
@@ -309,6 +366,22 @@ public final class FlowEdgesTest {
         Check.asked("the third is dead", x, x.found(5), 1, 6);
         x.knows(0, 0);
         Check.asked("the third is left", x, x.found(5), 1, 7);
+    }
+
+    /** BLOCK 2 is live, and 3 is made there, but by NUMBER 1 it goes to BLOCK 4. */
+    private static void joinsAlongLiveEdges() {
+        FlowConstants x = Check.read("b;i;k1;q0 1 2;b;k3;g3;b;k4;q1 4 3;b;j1 2 2 3;z4;b;z0;", 5);
+        Check.asked("the arm of a dead edge of a live block", x, x.found(3), 1, 4);
+        Check.asked("is left out", x, x.found(4), 1, 3);
+        Check.due("if plain, it is not", x.name(4, 7), ANY);
+        x.turned(2);
+        Check.due("turned: it is not", x.name(4, 6), ANY);
+        x.patches(1, 0);
+        Check.asked("by 0: it is", x, x.found(4), 1, 3);
+        x.turned(2);
+        Check.due("turned back, by 0: it is not", x.name(4, 6), ANY);
+        x.knows(0, 0);
+        Check.asked("it alone is left", x, x.found(4), 1, 4);
     }
 
     private static void neverBack() {

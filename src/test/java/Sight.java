@@ -50,11 +50,14 @@ final class Sight {
 
     private void seeWhatIsUndone() {
         makeAnew();
-        for (int i = 0; i <= 10; i++) {
-            seen.add(x.undo());
+        int more = x.undo();
+        for (int i = 0; i <= 10 && more >= 0; i++) {
+            seen.add(more);
             seen.add(x.asked());
             seeWhatWasDone();
+            more = x.undo();
         }
+        seen.add(more);
         makeAnew();
         for (int i = 0; i <= 10; i++) {
             x.undo();

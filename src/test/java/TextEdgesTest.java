@@ -466,6 +466,9 @@ public final class TextEdgesTest {
         Check.notStrict("b;i;z0;b;z1;");
         Check.notStrict("b;i;z0;b;g2;");
         Check.notStrict("b;i;z0;b;j1 2;g1;");
+        Check.notStrict("b;g1;b;g1;b;o1+0;z0;");
+        Check.notStrict("b;g1;b;g1;b;o1+1;g1;");
+        Check.notStrict("b;g1;b;g1;b;j2 1;g2;");
     }
 
     private static void noEdgeToBlock0() {
@@ -523,6 +526,9 @@ public final class TextEdgesTest {
         Check.notStrict(sides + "z2;");
         Check.notStrict("b;i;q0 1 2;b;i;q2 3 4;b;i;g3;b;z0;b;z0;");
         Check.read("b;i;q0 1 2;b;i;q1 3 4;b;i;g3;b;z0;b;z1;", 3);
+        Check.notStrict("b;z0;b;i;z0;");
+        Check.notStrict("b;q0 1 2;b;i;z0;b;z0;");
+        Check.read("b;g1;b;i;z0;", 1);
         Check.notStrict("b;i;z0;b;o2+0;i;z0;");
         Check.read("b;i;z0;b;i;o1+0;z2;", 3);
     }
