@@ -37,6 +37,7 @@ public final class DeedEdgesTest {
         readAnew();
         readAnewWithFewer();
         readOneBehindTheOther();
+        callsAtMost();
         Check.end("DeedEdgesTest");
     }
 
@@ -431,5 +432,21 @@ public final class DeedEdgesTest {
                 }
             }
         }
+    }
+
+    private static void callsAtMost() {
+        Check.says("An object is used for at most 512 calls after it has been made");
+        FlowConstants x = Check.read(DIAMOND, 6);
+        int calls = DIAMOND.length() + 1;
+        int given = 0;
+        while (calls < 512 - 4) {
+            given++;
+            Check.due("gives(1, " + given + ")", x.gives(1, given), 1);
+            calls++;
+        }
+        Check.due("the 509th", x.undo(), 9);
+        Check.due("the 510th", x.last(1), 1);
+        Check.due("the 511th", x.asked(), given - 1);
+        Check.due("the 512th", x.run(), 0);
     }
 }

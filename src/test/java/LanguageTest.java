@@ -5,6 +5,8 @@ import java.lang.reflect.Method;
 import java.lang.reflect.Modifier;
 import java.nio.file.Files;
 import java.nio.file.Path;
+import java.util.HashMap;
+import java.util.Map;
 import java.util.Set;
 import java.util.TreeSet;
 import java.util.regex.Matcher;
@@ -109,6 +111,7 @@ public final class LanguageTest {
             Check.isTrue("signs 1 to 127", file.charAt(i) > 0 && file.charAt(i) < 128);
         }
         methodsAreShort(code);
+        callsAreFlat(code);
         madeInConstructors(code);
     }
 
@@ -121,6 +124,31 @@ public final class LanguageTest {
             Check.isTrue("some sixty lines: " + body.group().lines().findFirst(), lines <= 60);
         }
         Check.isTrue("methods were seen: " + methods, methods > 80);
+    }
+
+    /** Rules 8, 11: no recursion, eight calls deep at most. No two methods share a name, so names tell. */
+    private static void callsAreFlat(String code) {
+        Map<String, String> bodies = new HashMap<>();
+        Matcher body = Pattern.compile(
+            "(?ms)^( {4}| {8})(?:\\w+ )*(?:int|void|boolean) (\\w+)\\([^)]*\\) \\{\n(.*?)^\\1\\}\n").matcher(code);
+        while (body.find()) {
+            Check.isTrue("a name of its own: " + body.group(2), bodies.put(body.group(2), body.group(3)) == null);
+        }
+        Check.isTrue("methods were seen: " + bodies.size(), bodies.size() > 80);
+        for (String method : bodies.keySet()) {
+            Check.isTrue("at most eight deep: " + method, depthOf(method, bodies, 1) <= 8);
+        }
+    }
+
+    private static int depthOf(String method, Map<String, String> bodies, int above) {
+        int deepest = above;
+        Matcher call = Pattern.compile("\\b(\\w+)\\(").matcher(bodies.get(method));
+        while (call.find() && deepest <= 8) {
+            if (bodies.containsKey(call.group(1))) {
+                deepest = Math.max(deepest, depthOf(call.group(1), bodies, above + 1));
+            }
+        }
+        return deepest;
     }
 
     /** What a call makes would be counted: rows are made with the object, and used again. */
