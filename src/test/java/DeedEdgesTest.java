@@ -419,16 +419,17 @@ public final class DeedEdgesTest {
     private static void readOneBehindTheOther() {
         String[] texts = {DIAMOND, "b;g1;b;g1;", "b;i;z0;", "b;k1;o0-0;z1;b;i;g2;b;j1 2;z3;",
             "b;i;q0 1 2;b;q0 3 4;b;g4;b;g4;b;j1 0 2 0 3 0;z1;", "b;i;i;o0/1;o0%1;z3;b;z0;b;z0;b;z0;"};
-        String[] faults = {"", "b;i;g1;b;j7 23 6 22 5 21;j7 9;q23 7 6;!", "b;k999;o23^23;o9*9;g7;b;k999;z9;"};
+        String[] others = {"", "b;i;g1;b;j7 23 6 22 5 21;j7 9;q23 7 6;!", "b;k999;o23^23;o9*9;g7;b;k999;z9;",
+            "b;k8;g1;b;g2;b;o0*0;z1;", "b;z0;b;i;z0;b;z0;b;z0;b;z0;"};
         for (String text : texts) {
             List<Integer> asNew = Sight.of(read(text));
             for (String before : texts) {
-                for (String fault : faults) {
+                for (String other : others) {
                     List<ToIntFunction<FlowConstants>> calls = read(before);
-                    calls.add(x -> Check.type(x, fault).program());
+                    calls.add(x -> Check.type(x, other).program());
                     calls.add(x -> x.clear());
                     calls.add(x -> Check.type(x, text).program());
-                    Check.isTrue(text + " behind " + before + " and " + fault, Sight.of(calls).equals(asNew));
+                    Check.isTrue(text + " behind " + before + " and " + other, Sight.of(calls).equals(asNew));
                 }
             }
         }

@@ -23,6 +23,7 @@ public final class TextEdgesTest {
         items();
         letters();
         numerals();
+        lettersForNumerals();
         signs();
         firstFault();
         noItem();
@@ -202,6 +203,27 @@ public final class TextEdgesTest {
                 Check.fault(text, c == ' ' ? 4 : c >= 'a' && c <= 'z' ? 2 : 3);
             }
         }
+    }
+
+    /** Letters are no NUMERALS, even those of an ITEM; nor are NUMERALS letters, even of their number. */
+    private static void lettersForNumerals() {
+        for (String letters : new String[] {"b", "i", "z", "a", "bb", "xyz"}) {
+            Check.faultAtBar("b;k |" + letters + ";z0;");
+            Check.faultAtBar("b;i;o |" + letters + "+0;z0;");
+            Check.faultAtBar("b;i;o0+|" + letters + ";z0;");
+            Check.faultAtBar("b;i;o0|" + letters + " 0;z0;");
+            Check.faultAtBar("b;i;g1;b;j |" + letters + " 0;z0;");
+            Check.faultAtBar("b;i;g1;b;j0 |" + letters + ";z0;");
+            Check.faultAtBar("b;i;g |" + letters + ";b;z0;");
+            Check.faultAtBar("b;i;q |" + letters + " 1 2;b;z0;b;z0;");
+            Check.faultAtBar("b;i;q0 |" + letters + " 2;b;z0;b;z0;");
+            Check.faultAtBar("b;i;q0 1 |" + letters + ";b;z0;b;z0;");
+            Check.faultAtBar("b;i;z |" + letters + ";");
+        }
+        Check.faultAtBar("|" + (int) 'b' + ";i;z0;");
+        Check.faultAtBar("b;|" + (int) 'i' + ";z0;");
+        Check.faultAtBar("b;i;|" + (int) 'z' + " 0;");
+        Check.faultAtBar("b;i;o0 |" + (int) '+' + " 0;z1;");
     }
 
     private static void signs() {
