@@ -549,5 +549,10 @@ public final class FlowEdgesTest {
         Check.due("never, and one if plain", x.count(10), 0);
         x = Check.read("b;k0;z0;b;i;z1;", 2);
         Check.due("never, if plain, too", x.count(10), 0);
+        // The choice is by NAME 1, of BLOCK 2: that NAME 0 is never is all the gain.
+        x = Check.read("b;g2;b;i;z0;b;k0;q1 1 3;b;z1;", 2);
+        Check.due("the first name alone", x.count(10), 1);
+        x.patches(1, 1);
+        Check.due("it is any now", x.count(10), 0);
     }
 }
